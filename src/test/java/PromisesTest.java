@@ -1,0 +1,804 @@
+import java.lang.reflect.Constructor;
+import java.lang.reflect.Field;
+import java.lang.reflect.Method;
+import java.lang.reflect.Modifier;
+import java.util.NoSuchElementException;
+import java.util.Set;
+import java.util.TreeSet;
+
+/** Promise by promise: ordinary inputs, the edges that the document names, wrong inputs. */
+public final class PromisesTest {
+    private static final int NONE = -1;
+    private static final String FOUR = "teams 4;day 0 1 2 3;day 0 2 1 3;day 0 3 1 2;";
+    private static final String SIX_PERFECT =
+        "teams 6;day 0 1 2 3 4 5;day 0 2 1 4 3 5;day 0 3 1 5 2 4;day 0 4 1 3 2 5;day 0 5 1 2 3 4;";
+    private static int wrong = 0;
+    private static int promise = 0;
+
+    private static void due(String what, long got, long want) {
+        if (got != want) {
+            wrong++;
+            System.out.println("promise " + promise + ": " + what + " answered " + got + ", due is " + want);
+        }
+    }
+
+    private static void due(String what, boolean got, boolean want) {
+        due(what, got ? 1 : 0, want ? 1 : 0);
+    }
+
+    private static void feed(RoundDays x, byte[] bytes) {
+        for (int at = 0; at < bytes.length; at += 20) {
+            int[] five = new int[5];
+            for (int i = 0; i < 20; i++) {
+                int sign = at + i < bytes.length ? bytes[at + i] & 255 : 0;
+                five[i / 4] = five[i / 4] << 8 | sign;
+            }
+            x.feed(five[0], five[1], five[2], five[3], five[4]);
+        }
+        x.end(bytes.length);
+    }
+
+    private static int text(RoundDays x, String text) {
+        feed(x, text.getBytes(java.nio.charset.StandardCharsets.ISO_8859_1));
+        return x.text();
+    }
+
+    private static RoundDays of(String text) {
+        RoundDays x = new RoundDays();
+        if (text(x, text) < 0) {
+            throw new IllegalStateException("a test's text is none: " + text);
+        }
+        return x;
+    }
+
+    private static int tell(RoundDays x, int... row) {
+        byte[] bytes = new byte[row.length];
+        for (int i = 0; i < row.length; i++) {
+            bytes[i] = (byte) row[i];
+        }
+        feed(x, bytes);
+        return x.tell();
+    }
+
+    private static int ring(RoundDays x, int d, int e, int i) {
+        try {
+            return x.ring(d, e, i);
+        } catch (NoSuchElementException none) {
+            return NONE;
+        }
+    }
+
+    private static void dueDay(RoundDays x, int day, int... row) {
+        for (int team = 0; team < row.length; team++) {
+            due("meets(" + day + ", " + team + ")", x.meets(day, team), row[team]);
+        }
+    }
+
+    private static void dueFault(String text, int place, int kind) {
+        RoundDays x = of(FOUR);
+        due("text() of '" + text + "'", text(x, text), -1 - place);
+        due("fault() of '" + text + "'", x.fault(), kind);
+        due("days behind a fault", x.now(1), 3);
+        due("tape behind a fault", x.now(6), 0);
+    }
+
+    public static void main(String[] args) {
+        face();
+        newObject();
+        tape();
+        textGood();
+        textFaults();
+        textLong();
+        nowAndMeets();
+        rings();
+        coming();
+        families();
+        starters();
+        turnedAndAlike();
+        telling();
+        adding();
+        dropWeedName();
+        sorting();
+        drawing();
+        undoing();
+        images();
+        System.out.println(wrong == 0 ? "all promises hold" : wrong + " answers are not as due");
+        if (wrong != 0) {
+            System.exit(1);
+        }
+    }
+
+    private static void face() {
+        promise = 0;
+        Set<String> names = new TreeSet<>();
+        for (Method m : RoundDays.class.getDeclaredMethods()) {
+            if (!Modifier.isPrivate(m.getModifiers())) {
+                due("public " + m.getName(), Modifier.isPublic(m.getModifiers()), true);
+                due("two of the name " + m.getName(), names.add(m.getName()), true);
+            }
+        }
+        due("methods of the face", names.size(), 31);
+        for (Field f : RoundDays.class.getDeclaredFields()) {
+            due("private " + f.getName(), Modifier.isPrivate(f.getModifiers()), !f.getName().equals("NONE"));
+        }
+        for (Constructor<?> c : RoundDays.class.getDeclaredConstructors()) {
+            due("a constructor's parameters", c.getParameterCount(), 0);
+        }
+        due("final class", Modifier.isFinal(RoundDays.class.getModifiers()), true);
+        due("NONE", RoundDays.NONE, -1);
+    }
+
+    private static void newObject() {
+        promise = 1;
+        RoundDays x = new RoundDays();
+        int[] want = {0, 0, 0, 1, 0, 0, 0, NONE};
+        for (int what = 0; what < want.length; what++) {
+            due("now(" + what + ")", x.now(what), want[what]);
+        }
+        due("fault()", x.fault(), 0);
+        due("may()", x.may(), 0);
+        due("turned()", x.turned(), NONE);
+        due("addAll(false)", x.addAll(false), 0);
+        due("add(false)", x.add(false), NONE);
+        due("come(true, 0)", x.come(true, 0), NONE);
+        due("undo()", x.undo(), NONE);
+    }
+
+    private static void tape() {
+        promise = 2;
+        RoundDays x = new RoundDays();
+        for (int i = 1; i <= 37; i++) {
+            due("feed " + i, x.feed(0, 0, 0, 0, 0), 20 * i);
+        }
+        due("feed beyond 740", x.feed(0, 0, 0, 0, 0), NONE);
+        due("tape", x.now(6), 740);
+        promise = 3;
+        due("end(741)", x.end(741), false);
+        due("end(-1)", x.end(-1), false);
+        due("end(740)", x.end(740), true);
+        due("end(721)", x.end(721), true);
+        promise = 2;
+        due("feed at 721", x.feed(0, 0, 0, 0, 0), NONE);
+        promise = 3;
+        due("end(720)", x.end(720), true);
+        promise = 2;
+        due("feed at 720", x.feed(0, 0, 0, 0, 0), 740);
+        promise = 3;
+        due("end(0)", x.end(0), true);
+        due("end(1)", x.end(1), false);
+        due("tape", x.now(6), 0);
+        promise = 2;
+        x = of("teams 4;");
+        // All five numbers, the highest byte first: a row of twenty bytes is told of no four teams.
+        due("feed", x.feed(0x01000302, 0x01000302, 0x01000302, 0x01000302, 0x01000302), 20);
+        due("tell() of twenty", x.tell(), NONE);
+        x = of("teams 14;");
+        due("feed", x.feed(0x01000302, 0x05040706, 0x09080b0a, 0x0d0c0000, -1), 20);
+        due("end(14)", x.end(14), true);
+        due("tell()", x.tell(), 1);
+        dueDay(x, 0, 1, 0, 3, 2, 5, 4, 7, 6, 9, 8, 11, 10, 13, 12);
+    }
+
+    private static void textGood() {
+        promise = 4;
+        RoundDays x = of(FOUR);
+        due("teams", x.now(0), 4);
+        due("days", x.now(1), 3);
+        due("tape", x.now(6), 0);
+        dueDay(x, 2, 3, 2, 1, 0);
+        due("lines", text(x, FOUR), 4);
+        due("lines of blanks", text(x, " \n "), 0);
+        due("teams", x.now(0), 0);
+        due("lines", text(x, "teams 04;\n\n  day\n03 0 1 02 ;"), 2);
+        dueDay(x, 0, 3, 2, 1, 0);
+        due("lines, no blanks where none must be", text(x, "teams\n14;day 0 1 2 3 4 5 6 7 8 9 10 11 12 13;"), 2);
+        due("teams", x.now(0), 14);
+        due("lines of an empty tape", x.text(), 0);
+        due("teams", x.now(0), 0);
+        due("days", x.now(1), 0);
+        promise = 5;
+        due("fault()", x.fault(), 0);
+        text(x, "teams 5;");
+        due("fault()", x.fault(), 2);
+        x.family(0, 4);
+        due("fault() stays", x.fault(), 2);
+        text(x, "x");
+        due("fault()", x.fault(), 1);
+        text(x, "teams 8;");
+        due("fault() behind a good one", x.fault(), 0);
+        promise = 4;
+        x = of(FOUR);
+        x.drop(0);
+        due("acts", x.now(5), 1);
+        text(x, "teams 5;");
+        due("acts stay with a fault", x.now(5), 1);
+        text(x, FOUR);
+        due("acts of a new text", x.now(5), 0);
+        x.drop(0);
+        x.text();
+        due("acts of an empty text", x.now(5), 0);
+    }
+
+    private static void textFaults() {
+        promise = 5;
+        dueFault("day 0 1 2 3;", 0, 1);
+        dueFault("team 4;", 0, 1);
+        dueFault("teams4;", 0, 1);
+        dueFault("  Teams 4;", 2, 1);
+        dueFault("teams;", 5, 1);
+        dueFault("teams teams 4;", 6, 1);
+        dueFault(";", 0, 1);
+        dueFault("4", 0, 1);
+        dueFault("teams 4 ", 8, 1);
+        dueFault("teams", 5, 1);
+        dueFault("teams 4 4;", 8, 1);
+        dueFault("teams 4;;", 8, 1);
+        dueFault("teams 4;teams 4;", 8, 1);
+        dueFault("teams\t4;", 5, 1);
+        dueFault("teams\r\n4;", 5, 1);
+        dueFault("teams 004;", 6, 1);
+        dueFault("teams 4a;", 6, 1);
+        dueFault("teams -4;", 6, 1);
+        dueFault("teams 2;", 6, 2);
+        dueFault("teams 0;", 6, 2);
+        dueFault("teams 7;", 6, 2);
+        dueFault("teams 15;", 6, 2);
+        dueFault("teams 16;", 6, 2);
+        dueFault("teams 99", 6, 2);
+        dueFault("teams 4;day;", 11, 1);
+        dueFault("teams 4;day0 1 2 3;", 8, 1);
+        dueFault("teams 4;days 0 1 2 3;", 8, 1);
+        dueFault("teams 4;day 0 1;", 15, 1);
+        dueFault("teams 4;day 0 1 2 3", 19, 1);
+        dueFault("teams 4;day 0 1 2 3 0;", 20, 1);
+        dueFault("teams 4;day 0 1 2 day", 18, 1);
+        dueFault("teams 4;day 0 1 2 100;", 18, 1);
+        dueFault("teams 4;day 0 1 2 \u00e9;", 18, 1);
+        dueFault("teams 4;day 0 4 2 3;", 14, 2);
+        dueFault("teams 4;day 4 0 2 3;", 12, 2);
+        dueFault("teams 4;day 0 0 2 3;", 14, 3);
+        dueFault("teams 4;day 0 1 0 3;", 16, 3);
+        dueFault("teams 4;day 0 1 2 1;", 18, 3);
+        dueFault("teams 4;day 0 1 2 3;day 2 0 3 1;day 0 2 9 9;", 38, 3);
+        dueFault("teams 4;day 0 1 2 3;day 1 0 2 3;", 26, 3);
+        dueFault("teams 4;day 0 1 2 3;day 3 2 0 1;", 26, 3);
+        dueFault(FOUR + "day", 44, 4);
+        dueFault(FOUR + " day 9", 45, 4);
+        dueFault(FOUR + "teams 4;", 44, 1);
+        dueFault(FOUR + "da", 44, 1);
+        dueFault(FOUR + "days", 44, 1);
+    }
+
+    private static void textLong() {
+        promise = 4;
+        String blanks = " ".repeat(740);
+        RoundDays x = new RoundDays();
+        due("700 bytes", text(x, "teams 4;" + blanks.substring(0, 692)), 1);
+        due("700 bytes, the last one ;", text(x, "teams 4" + blanks.substring(0, 692) + ";"), 1);
+        dueFault("teams 4;" + blanks.substring(0, 693), 700, 1);
+        dueFault("teams 4" + blanks.substring(0, 693) + ";", 700, 1);
+        dueFault("teams 4;" + blanks.substring(0, 732), 700, 1);
+        dueFault("teams" + blanks.substring(0, 694), 699, 1);
+        dueFault("teams" + blanks.substring(0, 735), 700, 1);
+        dueFault(blanks, 700, 1);
+        dueFault("teams" + blanks.substring(0, 694) + "14;", 700, 1);
+        dueFault("teams" + blanks.substring(0, 694) + "13;", 699, 2);
+        dueFault("teams" + blanks.substring(0, 694) + "144;", 699, 1);
+        dueFault("teams" + blanks.substring(0, 695) + "13;", 700, 1);
+        dueFault(FOUR + blanks.substring(0, 655) + "day 0", 699, 4);
+        dueFault(FOUR + blanks.substring(0, 655) + "dax 0", 699, 1);
+        dueFault(FOUR + blanks.substring(0, 656) + "day 0", 700, 1);
+        dueFault("teams 5;" + blanks.substring(0, 700), 6, 2);
+    }
+
+    private static void nowAndMeets() {
+        promise = 6;
+        RoundDays x = of(FOUR);
+        due("whole", x.now(2), 1);
+        due("perfect", x.now(3), 1);
+        due("pairs that make one", x.now(4), 3);
+        x.drop(0);
+        due("whole", x.now(2), 0);
+        due("acts", x.now(5), 1);
+        x.feed(1, 2, 3, 4, 5);
+        due("bytes", x.now(6), 20);
+        due("now(-1)", x.now(-1), NONE);
+        due("now(7)", x.now(7), NONE);
+        due("now(max)", x.now(Integer.MAX_VALUE), NONE);
+        x = of("teams 8;day 0 1 2 3 4 5 6 7;day 0 2 1 3 4 6 5 7;");
+        due("perfect", x.now(3), 0);
+        due("pairs that make one", x.now(4), 0);
+        promise = 7;
+        x = of("teams 6;day 5 0 4 1 2 3;");
+        dueDay(x, 0, 5, 4, 3, 2, 1, 0);
+        int[][] none = {{0, 6}, {0, -1}, {1, 0}, {-1, 0}, {Integer.MAX_VALUE, 0}, {0, Integer.MIN_VALUE}};
+        for (int[] n : none) {
+            due("meets of none", x.meets(n[0], n[1]), NONE);
+        }
+        promise = 8;
+        x = of(FOUR);
+        int[][] days = {{NONE, 0, 1, 2}, {0, NONE, 2, 1}, {1, 2, NONE, 0}, {2, 1, 0, NONE}};
+        for (int a = 0; a < 4; a++) {
+            for (int b = 0; b < 4; b++) {
+                due("met(" + a + ", " + b + ")", x.met(a, b), days[a][b]);
+            }
+            due("met of none", x.met(a, 4), NONE);
+            due("met of none", x.met(-1, a), NONE);
+        }
+        x.drop(1);
+        due("met(0, 2)", x.met(0, 2), NONE);
+        due("met(0, 3)", x.met(0, 3), 1);
+    }
+
+    private static void rings() {
+        promise = 9;
+        RoundDays x = of("teams 12;day 0 1 2 3 4 5 6 7 8 9 10 11;day 0 2 1 3 4 6 5 7 8 10 9 11;"
+            + "day 0 3 1 4 2 5 6 8 7 10 9 11;".replace("9 11", "9 11").replace("6 8 7 10 9 11", "6 9 7 10 8 11"));
+        due("rings(0, 1)", x.rings(0, 1), 3);
+        due("rings(1, 0)", x.rings(1, 0), 3);
+        due("rings(0, 2)", x.rings(0, 2), 2);
+        due("rings(0, 0)", x.rings(0, 0), NONE);
+        due("rings(0, 3)", x.rings(0, 3), NONE);
+        due("rings(-1, 0)", x.rings(-1, 0), NONE);
+        promise = 10;
+        due("ring(0, 1, 0)", ring(x, 0, 1, 0), 0x00f);
+        due("ring(0, 1, 1)", ring(x, 0, 1, 1), 0x0f0);
+        due("ring(1, 0, 2)", ring(x, 1, 0, 2), 0xf00);
+        due("ring(0, 1, 3)", ring(x, 0, 1, 3), NONE);
+        due("ring(0, 1, -1)", ring(x, 0, 1, -1), NONE);
+        due("ring(0, 2, 0)", ring(x, 0, 2, 0), 0x03f);
+        due("ring(0, 2, 1)", ring(x, 0, 2, 1), 0xfc0);
+        due("ring(0, 0, 0)", ring(x, 0, 0, 0), NONE);
+        due("ring(0, 3, 0)", ring(x, 0, 3, 0), NONE);
+        due("ring(-1, 1, 0)", ring(x, -1, 1, 0), NONE);
+        due("days behind throws", x.now(1), 3);
+        promise = 11;
+        int pairs = x.rings(1, 2);
+        int[] want = {0, 0, 0, 0, 0, 0, 0, 0};
+        want[3]++;
+        want[2]++;
+        want[pairs]++;
+        for (int n = 1; n <= 7; n++) {
+            due("make(" + n + ")", x.make(n), want[n]);
+        }
+        due("make(0)", x.make(0), NONE);
+        due("make(8)", x.make(8), NONE);
+        due("make(-1)", x.make(-1), NONE);
+        promise = 12;
+        x.family(0, 10);
+        for (int day = 0; day < 9; day++) {
+            due("sign(" + day + ")", x.sign(day), 6);
+        }
+        x.drop(3);
+        due("sign(0)", x.sign(0), 6);
+        due("sign(1)", x.sign(1), 5);
+        due("sign(8)", x.sign(8), NONE);
+        due("sign(-1)", x.sign(-1), NONE);
+    }
+
+    private static void coming() {
+        promise = 13;
+        int[] all = {3, 15, 105, 945, 10395, 135135};
+        for (int i = 0; i < all.length; i++) {
+            RoundDays x = of("teams " + (4 + 2 * i) + ";");
+            due("may() of " + (4 + 2 * i), x.may(), all[i]);
+        }
+        RoundDays x = of("teams 6;day 0 1 2 3 4 5;");
+        due("may()", x.may(), 8);
+        due("may() again", x.may(), 8);
+        // Teams 0, 1, 2 have met 3, 4, 5 each: three and three are left, who can't all be paired.
+        RoundDays stuck = of("teams 6;day 0 3 1 4 2 5;day 0 4 1 5 2 3;day 0 5 1 3 2 4;");
+        due("may()", stuck.may(), 0);
+        due("may() of a whole one", of(FOUR).may(), 0);
+        promise = 14;
+        due("come(false, 0)", x.come(false, 0), 2);
+        due("come(false, 1)", x.come(false, 1), 4);
+        due("come(false, 3)", x.come(false, 3), 5);
+        due("come(false, 6)", x.come(false, 6), NONE);
+        due("come(true, -1)", x.come(true, -1), NONE);
+        due("stuck", stuck.come(false, 0), NONE);
+        due("stuck", stuck.come(true, 0), NONE);
+        RoundDays eight = of("teams 8;day 0 1 2 3 4 5 6 7;");
+        int[] first = {2, 3, 0, 1, 6, 7, 4, 5};
+        int[] best = {2, 4, 0, 6, 1, 7, 3, 5};
+        for (int team = 0; team < 8; team++) {
+            due("FIRST of " + team, eight.come(false, team), first[team]);
+            due("BEST of " + team, eight.come(true, team), best[team]);
+        }
+        promise = 15;
+        x = of("teams 4;day 0 1 2 3;day 0 2 1 3;");
+        int[] sure = {3, 2, 1, 0};
+        for (int team = 0; team < 4; team++) {
+            due("sure(" + team + ")", x.sure(team), sure[team]);
+        }
+        due("sure(4)", x.sure(4), NONE);
+        due("sure(-1)", x.sure(-1), NONE);
+        due("stuck", stuck.sure(0), NONE);
+        due("free", of("teams 6;").sure(0), NONE);
+        due("whole", of(FOUR).sure(0), NONE);
+        // On five days of eight the teams 0 to 3 and 4 to 7 are left with rings of their own but for one pair.
+        x = of("teams 6;day 0 3 1 4 2 5;day 0 4 1 5 2 3;");
+        due("may()", x.may(), 4);
+        due("sure(0)", x.sure(0), NONE);
+        due("sure() changes nothing", x.may(), 4);
+    }
+
+    private static void families() {
+        promise = 16;
+        RoundDays x = new RoundDays();
+        due("family(0, 6)", x.family(0, 6), 5);
+        dueDay(x, 0, 5, 4, 3, 2, 1, 0);
+        dueDay(x, 1, 2, 5, 0, 4, 3, 1);
+        dueDay(x, 4, 3, 2, 1, 0, 5, 4);
+        due("family(1, 6)", x.family(1, 6), 5);
+        dueDay(x, 0, 3, 5, 4, 0, 2, 1);
+        dueDay(x, 1, 2, 4, 0, 5, 1, 3);
+        dueDay(x, 2, 4, 3, 5, 1, 0, 2);
+        dueDay(x, 3, 1, 0, 3, 2, 5, 4);
+        dueDay(x, 4, 5, 2, 1, 4, 3, 0);
+        for (int teams = -2; teams < 20; teams++) {
+            boolean even = teams >= 4 && teams <= 14 && teams % 2 == 0;
+            due("family(0, " + teams + ")", x.family(0, teams), even ? teams - 1 : NONE);
+            boolean twice = teams == 6 || teams == 10 || teams == 14;
+            due("family(1, " + teams + ")", x.family(1, teams), twice ? teams - 1 : NONE);
+            due("family(2, " + teams + ")", x.family(2, teams), NONE);
+            due("family(-1, " + teams + ")", x.family(-1, teams), NONE);
+        }
+        due("whole", x.now(2), 1);
+        due("teams", x.now(0), 14);
+        for (int a = 0; a < 14; a++) {
+            for (int b = 0; b < 14; b++) {
+                due("all meet", x.met(a, b) != NONE, a != b);
+            }
+        }
+    }
+
+    private static void starters() {
+        promise = 17;
+        RoundDays x = of(FOUR);
+        int[] all = {1, 1, 3, 9, 25, 133};
+        int[] perfect = {1, 1, 1, 0, 3, 1};
+        for (int m = -1; m < 18; m++) {
+            boolean told = m >= 3 && m <= 13 && m % 2 == 1;
+            due("starters(" + m + ", 0)", x.starters(m, 0), told ? all[(m - 3) / 2] : NONE);
+            due("starters(" + m + ", 1)", x.starters(m, 1), told ? perfect[(m - 3) / 2] : NONE);
+            due("starters(" + m + ", 2)", x.starters(m, 2), NONE);
+            due("starters(" + m + ", -1)", x.starters(m, -1), NONE);
+            due("starter(" + m + ", 0, 1)", x.starter(m, 0, 1) != NONE, told);
+        }
+        due("days", x.now(1), 3);
+        due("acts", x.now(5), 0);
+        promise = 18;
+        int[][] seven = {{3, 6, 1, 5, 4, 2}, {5, 3, 2, 6, 1, 4}, {6, 5, 4, 3, 2, 1}};
+        for (int k = 0; k < 3; k++) {
+            for (int number = 1; number < 7; number++) {
+                due("starter(7, " + k + ", " + number + ")", x.starter(7, k, number), seven[k][number - 1]);
+            }
+        }
+        due("starter(7, 3, 1)", x.starter(7, 3, 1), NONE);
+        due("starter(7, -1, 1)", x.starter(7, -1, 1), NONE);
+        due("starter(7, 0, 0)", x.starter(7, 0, 0), NONE);
+        due("starter(7, 0, 7)", x.starter(7, 0, 7), NONE);
+        due("starter(13, 132, 12)", x.starter(13, 132, 12), 1);
+        due("starter(13, 133, 12)", x.starter(13, 133, 12), NONE);
+        promise = 19;
+        due("by(7, 0)", x.by(7, 0), 7);
+        due("teams", x.now(0), 8);
+        dueDay(x, 0, 7, 3, 6, 1, 5, 4, 2, 0);
+        dueDay(x, 1, 3, 7, 4, 0, 2, 6, 5, 1);
+        due("by(7, 3)", x.by(7, 3), NONE);
+        due("by(7, -1)", x.by(7, -1), NONE);
+        due("by(8, 0)", x.by(8, 0), NONE);
+        due("by(15, 0)", x.by(15, 0), NONE);
+        due("by(1, 0)", x.by(1, 0), NONE);
+        due("acts", x.now(5), 1);
+        due("teams", x.now(0), 8);
+        due("undo()", x.undo(), 0);
+        due("teams", x.now(0), 4);
+    }
+
+    private static void turnedAndAlike() {
+        promise = 20;
+        RoundDays x = of("teams 6;");
+        due("turned() without days", x.turned(), 31);
+        x.family(0, 6);
+        due("turned()", x.turned(), 31);
+        x.drop(0);
+        due("turned()", x.turned(), 1);
+        x.family(0, 10);
+        x.drop(7);
+        x.drop(4);
+        x.drop(1);
+        due("turned() by threes", x.turned(), 1 | 1 << 3 | 1 << 6);
+        x.name(2, 9);
+        due("turned()", x.turned(), 1);
+        promise = 21;
+        due("alike(0)", x.alike(0), NONE);
+        due("alike(-1)", x.alike(-1), NONE);
+        due("alike(2)", x.alike(2), NONE);
+        x.image(1);
+        due("alike(0)", x.alike(0), NONE);
+        due("alike(1)", x.alike(1), 1);
+        x.name(0, 1);
+        x.sort();
+        due("alike(1)", x.alike(1), 1);
+        x.drop(0);
+        due("other days", x.alike(1), 0);
+        x.family(0, 10);
+        x.image(0);
+        due("alike(0)", x.alike(0), 1);
+        x.family(1, 10);
+        due("other rings", x.alike(0), 0);
+        x = of("teams 6;day 0 1 2 3 4 5;");
+        x.image(0);
+        text(x, "teams 8;day 0 1 2 3 4 5 6 7;");
+        due("other teams", x.alike(0), 0);
+        x = new RoundDays();
+        x.image(0);
+        due("two without teams", x.alike(0), 1);
+        // As many pairs of days with one ring, but on other days: the signs tell them apart.
+        x = of("teams 8;day 0 1 2 3 4 5 6 7;day 0 2 1 3 4 6 5 7;day 0 3 1 4 2 5 6 7;".replace("2 5 6 7", "2 6 5 7")
+            .replace("day 0 3 1 4 2 6 5 7", "day 0 3 1 2 4 7 5 6"));
+        due("make(2)", x.make(2), 3);
+        x.image(0);
+        due("alike(0)", x.alike(0), 1);
+    }
+
+    private static void telling() {
+        promise = 22;
+        RoundDays x = of("teams 6;");
+        due("tell()", tell(x, 1, 0, 3, 2, 5, 4), 1);
+        due("tell() of pairs that have met", tell(x, 1, 0, 4, 5, 2, 3), NONE);
+        due("tell() of one that has met", tell(x, 2, 3, 0, 1, 5, 4), NONE);
+        due("tell() not both ways", tell(x, 2, 3, 4, 5, 0, 1), NONE);
+        due("tell() with itself", tell(x, 0, 1, 3, 2, 4, 5), NONE);
+        due("tell() of a team too high", tell(x, 6, 3, 4, 1, 2, 0), NONE);
+        due("tell() of a byte above 127", tell(x, 250, 3, 4, 1, 2, 0), NONE);
+        due("tell() too short", tell(x, 2, 4, 0, 5, 1), NONE);
+        due("tell() too long", tell(x, 2, 4, 0, 5, 1, 3, 0), NONE);
+        due("tape behind tell()", x.now(6), 0);
+        due("tell() of an empty tape", x.tell(), NONE);
+        due("acts", x.now(5), 1);
+        due("fault()", x.fault(), 0);
+        due("tell()", tell(x, 2, 4, 0, 5, 1, 3), 2);
+        dueDay(x, 1, 2, 4, 0, 5, 1, 3);
+        due("tape behind tell()", x.now(6), 0);
+        x = new RoundDays();
+        due("tell() without teams", x.tell(), NONE);
+        due("tell() without teams", tell(x, 1, 0, 3, 2), NONE);
+        due("tape behind tell()", x.now(6), 0);
+        x = of(FOUR);
+        due("tell() of a whole one", tell(x, 1, 0, 3, 2), NONE);
+    }
+
+    private static void adding() {
+        promise = 23;
+        RoundDays x = of("teams 8;day 0 1 2 3 4 5 6 7;");
+        due("add(true)", x.add(true), 2);
+        dueDay(x, 1, 2, 4, 0, 6, 1, 7, 3, 5);
+        x.undo();
+        due("add(false)", x.add(false), 2);
+        dueDay(x, 1, 2, 3, 0, 1, 6, 7, 4, 5);
+        x = of("teams 6;day 0 3 1 4 2 5;day 0 4 1 5 2 3;day 0 5 1 3 2 4;");
+        due("add(false)", x.add(false), NONE);
+        due("add(true)", x.add(true), NONE);
+        due("acts", x.now(5), 0);
+        promise = 24;
+        due("addAll(false)", x.addAll(false), 0);
+        due("acts", x.now(5), 0);
+        x = of("teams 6;");
+        due("addAll(true)", x.addAll(true), 5);
+        due("acts", x.now(5), 1);
+        dueDay(x, 0, 1, 0, 3, 2, 5, 4);
+        dueDay(x, 1, 2, 4, 0, 5, 1, 3);
+        due("perfect", x.now(3), 1);
+        x = of("teams 8;");
+        due("addAll(false)", x.addAll(false), 7);
+        due("make(2)", x.make(2), 21);
+        dueDay(x, 6, 7, 6, 5, 4, 3, 2, 1, 0);
+        due("undo()", x.undo(), 0);
+        due("days", x.now(1), 0);
+        int came = x.addAll(true);
+        due("perfect", x.now(3), 1);
+        due("days", x.now(1), came);
+        due("no BEST more", x.come(true, 0), NONE);
+    }
+
+    private static void dropWeedName() {
+        promise = 25;
+        RoundDays x = of(FOUR);
+        due("drop(-1)", x.drop(-1), NONE);
+        due("drop(3)", x.drop(3), NONE);
+        due("acts", x.now(5), 0);
+        due("drop(1)", x.drop(1), 2);
+        dueDay(x, 0, 1, 0, 3, 2);
+        dueDay(x, 1, 3, 2, 1, 0);
+        due("drop(1)", x.drop(1), 1);
+        due("drop(0)", x.drop(0), 0);
+        due("drop(0)", x.drop(0), NONE);
+        promise = 26;
+        x.family(0, 10);
+        x.drop(3);
+        due("weed(5)", x.weed(5), 0);
+        due("weed(-1)", x.weed(-1), 0);
+        due("acts", x.now(5), 5);
+        // Days 0 and 6 made two rings with day 3 alone... the other six each have one fewer: signs are told ahead of all.
+        int below = 0;
+        for (int day = 0; day < 8; day++) {
+            below += x.sign(day) < 6 ? 1 : 0;
+        }
+        due("weed(6)", x.weed(6), below);
+        due("days", x.now(1), 8 - below);
+        dueDay(x, 0, 9, 8, 7, 6, 5, 4, 3, 2, 1, 0);
+        due("acts", x.now(5), 6);
+        due("weed(max)", x.weed(Integer.MAX_VALUE), 8 - below);
+        due("weed(1) of none", x.weed(1), 0);
+        promise = 27;
+        x = of("teams 6;day 0 1 2 3 4 5;day 0 2 1 4 3 5;");
+        due("name(0, 0)", x.name(0, 0), NONE);
+        due("name(0, 6)", x.name(0, 6), NONE);
+        due("name(-1, 0)", x.name(-1, 0), NONE);
+        due("acts", x.now(5), 0);
+        due("name(0, 1)", x.name(0, 1), 1);
+        dueDay(x, 0, 1, 0, 3, 2, 5, 4);
+        dueDay(x, 1, 4, 2, 1, 5, 0, 3);
+        due("name(5, 0)", x.name(5, 0), 2);
+        dueDay(x, 0, 4, 5, 3, 2, 0, 1);
+        dueDay(x, 1, 3, 2, 1, 0, 5, 4);
+        due("acts", x.now(5), 2);
+        x = of("teams 4;");
+        due("name(0, 1) without days", x.name(0, 1), 0);
+        due("acts", x.now(5), 1);
+    }
+
+    private static void sorting() {
+        promise = 28;
+        RoundDays x = of("teams 6;day 0 5 1 2 3 4;day 0 2 1 4 3 5;day 0 3 1 5 2 4;day 0 4 1 3 2 5;day 0 1 2 3 4 5;");
+        due("sort()", x.sort(), 2);
+        dueDay(x, 0, 1, 0, 3, 2, 5, 4);
+        dueDay(x, 1, 2, 4, 0, 5, 1, 3);
+        dueDay(x, 4, 5, 2, 1, 4, 3, 0);
+        due("acts", x.now(5), 1);
+        due("sort()", x.sort(), 0);
+        due("acts", x.now(5), 1);
+        due("undo()", x.undo(), 0);
+        dueDay(x, 0, 5, 2, 1, 4, 3, 0);
+        x = of("teams 6;day 0 3 1 5 2 4;day 0 1 2 3 4 5;day 0 2 1 4 3 5;");
+        due("sort()", x.sort(), 3);
+        due("met(0, 3)", x.met(0, 3), 2);
+        due("sort() without teams", new RoundDays().sort(), 0);
+    }
+
+    private static void drawing() {
+        promise = 29;
+        RoundDays x = of(SIX_PERFECT);
+        due("drawn(0, 1)", x.drawn(0, 1), NONE);
+        due("drawn(61, 1)", x.drawn(61, 1), NONE);
+        due("drawn(-1, 1)", x.drawn(-1, 1), NONE);
+        due("acts", x.now(5), 0);
+        due("drawn(60, 1)", x.drawn(60, 1), 5);
+        due("acts", x.now(5), 1);
+        // A DEED of a seed whose first draw is 0 on no days: no day goes, then FIRST comes.
+        int seed = 0;
+        while ((seed * 1103515245 + 12345 >>> 8) % 4 != 0) {
+            seed++;
+        }
+        x = of("teams 6;");
+        due("drawn(1, " + seed + ")", x.drawn(1, seed), 1);
+        dueDay(x, 0, 1, 0, 3, 2, 5, 4);
+        // With one day that one goes, and comes again as the first.
+        x = of("teams 4;day 0 3 1 2;");
+        due("drawn(1, " + seed + ")", x.drawn(1, seed), 1);
+        dueDay(x, 0, 1, 0, 3, 2);
+        due("undo()", x.undo(), 0);
+        dueDay(x, 0, 3, 2, 1, 0);
+        // A seed whose first draw is not 0: two other draws name two teams anew, then FIRST comes.
+        int other = 0;
+        while ((other * 1103515245 + 12345 >>> 8) % 4 == 0) {
+            other++;
+        }
+        int s = other * 1103515245 + 12345;
+        s = s * 1103515245 + 12345;
+        int a = (s >>> 8) % 6;
+        s = s * 1103515245 + 12345;
+        int b = (s >>> 8) % 6;
+        x = of("teams 6;day 0 3 1 4 2 5;");
+        RoundDays y = of("teams 6;day 0 3 1 4 2 5;");
+        y.name(a, b);
+        y.add(false);
+        due("drawn(1, " + other + ")", x.drawn(1, other), 2);
+        for (int day = 0; day < 2; day++) {
+            for (int team = 0; team < 6; team++) {
+                due("drawn day " + day + ", team " + team, x.meets(day, team), y.meets(day, team));
+            }
+        }
+        x = new RoundDays();
+        due("drawn(5, 5) without teams", x.drawn(5, 5), 0);
+        due("acts", x.now(5), 0);
+    }
+
+    private static void undoing() {
+        promise = 30;
+        RoundDays x = of("teams 6;");
+        due("undo()", x.undo(), NONE);
+        x.family(0, 8);
+        x.by(5, 0);
+        x.drop(0);
+        tell(x, 5, 4, 3, 2, 1, 0);
+        x.name(0, 3);
+        x.drop(2);
+        x.add(true);
+        x.drop(1);
+        due("acts", x.now(5), 8);
+        due("addAll(true)", x.addAll(true), 1);
+        due("acts", x.now(5), 8);
+        due("undo() of addAll()", x.undo(), 7);
+        due("days", x.now(1), 4);
+        due("undo() of drop()", x.undo(), 6);
+        due("undo() of add()", x.undo(), 5);
+        due("undo() of drop()", x.undo(), 4);
+        due("undo() of name()", x.undo(), 3);
+        dueDay(x, 4, 5, 4, 3, 2, 1, 0);
+        due("undo() of tell()", x.undo(), 2);
+        due("days", x.now(1), 4);
+        due("undo() of drop()", x.undo(), 1);
+        due("days", x.now(1), 5);
+        due("undo() of by()", x.undo(), 0);
+        due("teams", x.now(0), 8);
+        due("undo() of family(), no more kept", x.undo(), NONE);
+        due("teams", x.now(0), 8);
+        x.name(1, 2);
+        due("acts", x.now(5), 1);
+        due("undo()", x.undo(), 0);
+        x.feed(1, 2, 3, 4, 5);
+        x.weed(99);
+        due("undo() of weed()", x.undo(), 0);
+        due("days", x.now(1), 7);
+        due("bytes stay", x.now(6), 20);
+    }
+
+    private static void images() {
+        promise = 31;
+        RoundDays x = of(FOUR);
+        due("image(-1)", x.image(-1), false);
+        due("image(2)", x.image(2), false);
+        promise = 32;
+        due("restore(0)", x.restore(0), false);
+        due("restore(2)", x.restore(2), false);
+        due("restore(-1)", x.restore(-1), false);
+        promise = 31;
+        due("image(0)", x.image(0), true);
+        x.drop(0);
+        due("image(1)", x.image(1), true);
+        due("acts", x.now(5), 1);
+        x.family(0, 14);
+        promise = 32;
+        due("restore(1)", x.restore(1), true);
+        due("days", x.now(1), 2);
+        due("teams", x.now(0), 4);
+        due("acts", x.now(5), 0);
+        due("undo()", x.undo(), NONE);
+        text(x, "teams 5;");
+        x.feed(1, 2, 3, 4, 5);
+        due("restore(0)", x.restore(0), true);
+        due("days", x.now(1), 3);
+        due("fault() stays", x.fault(), 2);
+        due("bytes stay", x.now(6), 20);
+        x.drop(0);
+        due("restore(0) again", x.restore(0), true);
+        due("an image stays as it was", x.now(1), 3);
+        due("restore(-1)", x.restore(-1), false);
+        x.drop(0);
+        due("a false one changes nothing", x.restore(2), false);
+        due("acts", x.now(5), 1);
+        promise = 31;
+        x = new RoundDays();
+        due("image(1) without teams", x.image(1), true);
+        x.family(0, 4);
+        x.end(0);
+        x.text();
+        x.family(0, 6);
+        due("images outlive a new text", x.restore(1), true);
+        due("teams", x.now(0), 0);
+    }
+}
