@@ -333,7 +333,7 @@ public final class PromisesTest {
     private static void rings() {
         promise = 9;
         RoundDays x = of("teams 12;day 0 1 2 3 4 5 6 7 8 9 10 11;day 0 2 1 3 4 6 5 7 8 10 9 11;"
-            + "day 0 3 1 4 2 5 6 8 7 10 9 11;".replace("9 11", "9 11").replace("6 8 7 10 9 11", "6 9 7 10 8 11"));
+            + "day 0 3 1 4 2 5 6 9 7 10 8 11;");
         due("rings(0, 1)", x.rings(0, 1), 3);
         due("rings(1, 0)", x.rings(1, 0), 3);
         due("rings(0, 2)", x.rings(0, 2), 2);
@@ -353,11 +353,7 @@ public final class PromisesTest {
         due("ring(-1, 1, 0)", ring(x, -1, 1, 0), NONE);
         due("days behind throws", x.now(1), 3);
         promise = 11;
-        int pairs = x.rings(1, 2);
-        int[] want = {0, 0, 0, 0, 0, 0, 0, 0};
-        want[3]++;
-        want[2]++;
-        want[pairs]++;
+        int[] want = {0, 1, 1, 1, 0, 0, 0, 0};
         for (int n = 1; n <= 7; n++) {
             due("make(" + n + ")", x.make(n), want[n]);
         }
@@ -416,11 +412,17 @@ public final class PromisesTest {
         due("stuck", stuck.sure(0), NONE);
         due("free", of("teams 6;").sure(0), NONE);
         due("whole", of(FOUR).sure(0), NONE);
-        // On five days of eight the teams 0 to 3 and 4 to 7 are left with rings of their own but for one pair.
         x = of("teams 6;day 0 3 1 4 2 5;day 0 4 1 5 2 3;");
         due("may()", x.may(), 4);
         due("sure(0)", x.sure(0), NONE);
         due("sure() changes nothing", x.may(), 4);
+        // Pairs left among 0 to 4 and among 5 to 9, and 0 with 5 alone between them: these two must meet.
+        x = of("teams 10;day 0 1 2 5 3 6 4 7 8 9;day 0 2 1 6 3 8 4 9 5 7;day 0 6 1 5 2 7 3 9 4 8;"
+            + "day 0 7 1 8 2 9 3 4 5 6;day 0 8 1 9 2 6 3 7 4 5;day 0 9 1 7 2 8 3 5 4 6;");
+        due("may()", x.may(), 4);
+        for (int team = 0; team < 10; team++) {
+            due("sure(" + team + ")", x.sure(team), team == 0 ? 5 : team == 5 ? 0 : NONE);
+        }
     }
 
     private static void families() {
@@ -536,12 +538,20 @@ public final class PromisesTest {
         x = new RoundDays();
         x.image(0);
         due("two without teams", x.alike(0), 1);
-        // As many pairs of days with one ring, but on other days: the signs tell them apart.
-        x = of("teams 8;day 0 1 2 3 4 5 6 7;day 0 2 1 3 4 6 5 7;day 0 3 1 4 2 5 6 7;".replace("2 5 6 7", "2 6 5 7")
-            .replace("day 0 3 1 4 2 6 5 7", "day 0 3 1 2 4 7 5 6"));
-        due("make(2)", x.make(2), 3);
+        // As many pairs of days with one ring and with two: the signs alone tell them apart.
+        x = of("teams 8;day 0 6 1 5 2 7 3 4;day 0 3 1 4 2 6 5 7;day 0 5 1 6 2 3 4 7;day 0 4 1 7 2 5 3 6;");
+        due("make(1)", x.make(1), 4);
+        due("make(2)", x.make(2), 2);
         x.image(0);
-        due("alike(0)", x.alike(0), 1);
+        text(x, "teams 8;day 0 5 1 3 2 6 4 7;day 0 3 1 5 2 7 4 6;day 0 7 1 2 3 4 5 6;day 0 2 1 7 3 6 4 5;");
+        due("make(1)", x.make(1), 4);
+        due("make(2)", x.make(2), 2);
+        due("other signs", x.alike(0), 0);
+        // The same signs, but two rings here and three there.
+        text(x, "teams 12;day 0 8 1 10 2 11 3 9 4 5 6 7;day 0 4 1 7 2 9 3 11 5 8 6 10;");
+        x.image(0);
+        text(x, "teams 12;day 0 7 1 4 2 8 3 5 6 9 10 11;day 0 8 1 7 2 3 4 5 6 10 9 11;");
+        due("the same signs, other rings", x.alike(0), 0);
     }
 
     private static void telling() {
@@ -622,16 +632,13 @@ public final class PromisesTest {
         due("weed(5)", x.weed(5), 0);
         due("weed(-1)", x.weed(-1), 0);
         due("acts", x.now(5), 5);
-        // Days 0 and 6 made two rings with day 3 alone... the other six each have one fewer: signs are told ahead of all.
-        int below = 0;
-        for (int day = 0; day < 8; day++) {
-            below += x.sign(day) < 6 ? 1 : 0;
-        }
-        due("weed(6)", x.weed(6), below);
-        due("days", x.now(1), 8 - below);
+        // Day 3 made ONE with all but days 0 and 6, who keep their six; the others, all with five, go at once.
+        due("weed(6)", x.weed(6), 6);
+        due("days", x.now(1), 2);
         dueDay(x, 0, 9, 8, 7, 6, 5, 4, 3, 2, 1, 0);
+        dueDay(x, 1, 3, 2, 1, 0, 8, 7, 9, 5, 4, 6);
         due("acts", x.now(5), 6);
-        due("weed(max)", x.weed(Integer.MAX_VALUE), 8 - below);
+        due("weed(max)", x.weed(Integer.MAX_VALUE), 2);
         due("weed(1) of none", x.weed(1), 0);
         promise = 27;
         x = of("teams 6;day 0 1 2 3 4 5;day 0 2 1 4 3 5;");
