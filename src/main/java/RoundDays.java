@@ -560,11 +560,11 @@ public final class RoundDays {
         }
 
         private boolean spells(Tape tape, String word) {
-            if (next - start != word.length()) {
+            if (next - start != word.length() || next > tape.length) {
                 return false;
             }
             for (int i = 0; i < word.length(); i++) {
-                if (tape.at(start + i) != word.charAt(i)) {
+                if (tape.bytes[start + i] != word.charAt(i)) {
                     return false;
                 }
             }
@@ -606,7 +606,7 @@ public final class RoundDays {
         }
 
         boolean hasTwoTeams(int a, int b) {
-            return a != b && hasTeam(a) && hasTeam(b);
+            return a != b && a >= 0 && a < teams && b >= 0 && b < teams;
         }
 
         boolean hasDay(int day) {
@@ -614,11 +614,14 @@ public final class RoundDays {
         }
 
         boolean hasTwoDays(int d, int e) {
-            return d != e && hasDay(d) && hasDay(e);
+            return d != e && d >= 0 && d < days && e >= 0 && e < days;
         }
 
         int partner(int day, int team) {
-            return hasDay(day) && hasTeam(team) ? rows[day * MOST_TEAMS + team] : NONE;
+            if (day < 0 || day >= days || team < 0 || team >= teams) {
+                return NONE;
+            }
+            return rows[day * MOST_TEAMS + team];
         }
 
         int dayOf(int a, int b) {
@@ -674,6 +677,17 @@ public final class RoundDays {
             return 0;
         }
 
+        /** Whether the first day makes one ring with each other one. */
+        boolean isFirstOneWithAll() {
+            int all = (1 << teams) - 1;
+            for (int day = 1; day < days; day++) {
+                if (circleOf(0, day, 0) != all) {
+                    return false;
+                }
+            }
+            return true;
+        }
+
         void append(int[] row) {
             if (days >= MOST_DAYS || row.length < MOST_TEAMS) {
                 return;
@@ -709,8 +723,9 @@ public final class RoundDays {
             return apart;
         }
 
+        /** Two teams meet on a day; what are no two teams is passed over. */
         private void pair(int day, int a, int b) {
-            if (hasDay(day) && hasTwoTeams(a, b)) {
+            if (day >= 0 && day < days && hasTwoTeams(a, b)) {
                 rows[day * MOST_TEAMS + a] = b;
                 rows[day * MOST_TEAMS + b] = a;
             }
@@ -960,7 +975,7 @@ public final class RoundDays {
      * meet, so days are gone through in order. Sets of teams are bits.
      */
     private static final class Finder {
-        private static final int SETS = 1 << MOST_TEAMS - 1;
+        private static final int SETS = 1 << MOST_TEAMS - 2;
 
         final int[] found = new int[MOST_TEAMS];
         private final int[] free = new int[MOST_TEAMS];
@@ -1030,7 +1045,10 @@ public final class RoundDays {
             }
         }
 
-        /** A set has an even number of teams, so its other teams tell whether team 0 is in it. */
+        /**
+         * The place of a set by its teams 1 to 12. Each set is even, so these tell whether team 13 is in it; team 0
+         * is in the whole set alone, which is looked up ahead of all others and kept behind them.
+         */
         private static int slot(int left) {
             return left >> 1 & SETS - 1;
         }
@@ -1155,20 +1173,25 @@ public final class RoundDays {
 
         void countAll(int newM, boolean judge) {
             begin(newM, NONE, judge);
+            seek(numbers(), 0, 1);
         }
 
         /** Whether there is a k-th starter; it stands in the row then. */
         boolean find(int newM, int k) {
-            return k >= 0 && begin(newM, k, false);
+            begin(newM, k, false);
+            return k >= 0 && seek(numbers(), 0, 1);
         }
 
-        private boolean begin(int newM, int k, boolean judge) {
+        private void begin(int newM, int k, boolean judge) {
             m = newM;
             wanted = k;
             judging = judge;
             counted = 0;
             perfect = 0;
-            return seek((1 << m) - 2, 0, 1);
+        }
+
+        private int numbers() {
+            return (1 << m) - 2;
         }
 
         /** Pairs the numbers left, none below 'from', by differences not in the set gaps; true: the wanted one stands. */
@@ -1202,21 +1225,14 @@ public final class RoundDays {
                 return true;
             }
             counted++;
-            if (judging && isPerfect()) {
-                perfect++;
-            }
-            return false;
-        }
-
-        private boolean isPerfect() {
-            plan.fillBy(m, row);
-            // Turned, two days become two that are as far from one another: day 0 stands for all.
-            for (int day = 1; day < m; day++) {
-                if (plan.circles(0, day) != 1) {
-                    return false;
+            if (judging) {
+                plan.fillBy(m, row);
+                // Turned, two days become two that are as far from one another: the first day stands for all.
+                if (plan.isFirstOneWithAll()) {
+                    perfect++;
                 }
             }
-            return true;
+            return false;
         }
     }
 }

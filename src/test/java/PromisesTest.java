@@ -248,6 +248,13 @@ public final class PromisesTest {
         dueFault("teams 4;day;", 11, 1);
         dueFault("teams 4;day0 1 2 3;", 8, 1);
         dueFault("teams 4;days 0 1 2 3;", 8, 1);
+        dueFault("teams 4;dayz 0 1 2 3;", 8, 1);
+        dueFault("teams 4;daya 0 1 2 3;", 8, 1);
+        dueFault("teams 4;day{0 1 2 3;", 11, 1);
+        dueFault("teams 4;day`0 1 2 3;", 11, 1);
+        dueFault("teams 4;day 0/1 2 3;", 13, 1);
+        dueFault("teams 4;day 0:1 2 3;", 13, 1);
+        dueFault("teams 4;day 0 1z 2 3;", 14, 1);
         dueFault("teams 4;day 0 1;", 15, 1);
         dueFault("teams 4;day 0 1 2 3", 19, 1);
         dueFault("teams 4;day 0 1 2 3 0;", 20, 1);
