@@ -924,7 +924,10 @@ public final class RoundDays {
                 }
             }
             for (int day = 0; day < days; day++) {
-                daysOfSign[signs[day]]++;
+                int sign = signs[day];
+                if (sign >= 0 && sign < MOST_DAYS) {
+                    daysOfSign[sign]++;
+                }
             }
         }
 
@@ -1146,8 +1149,8 @@ public final class RoundDays {
                 int row = day * MOST_TEAMS;
                 int endA = ends[row + a];
                 int endB = ends[row + b];
-                ends[row + endA] = endB;
-                ends[row + endB] = endA;
+                setEnd(row, endA, endB);
+                setEnd(row, endB, endA);
             }
         }
 
@@ -1155,8 +1158,14 @@ public final class RoundDays {
         private void part(int a, int b) {
             for (int day = 0; day < days; day++) {
                 int row = day * MOST_TEAMS;
-                ends[row + ends[row + a]] = a;
-                ends[row + ends[row + b]] = b;
+                setEnd(row, ends[row + a], a);
+                setEnd(row, ends[row + b], b);
+            }
+        }
+
+        private void setEnd(int row, int team, int end) {
+            if (team >= 0 && team < MOST_TEAMS) {
+                ends[row + team] = end;
             }
         }
     }
