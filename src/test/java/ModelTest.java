@@ -17,7 +17,7 @@ import java.util.regex.Pattern;
 /** Runs of up to 512 calls, made by a fixed seed, against a model that tries all days there are. */
 public final class ModelTest {
     private static final int NONE = -1;
-    private static final int RUNS = 400;
+    private static final int RUNS = 800;
     private static final int CALLS = 512;
 
     /** The schedule, without any cleverness. */
@@ -417,7 +417,7 @@ public final class ModelTest {
     private ModelTest(int run) {
         this.run = run;
         random = new Random(run);
-        mostTeams = run % 20 == 0 ? 14 : run % 5 == 0 ? 12 : 10;
+        mostTeams = run % 8 == 0 ? 14 : run % 4 == 0 ? 12 : 10;
     }
 
     private void due(String call, long got, long want) {
@@ -791,17 +791,30 @@ public final class ModelTest {
         }
     }
 
+    private void feedText() {
+        String text = madeText();
+        end(0);
+        feed(text);
+        end(text.length());
+        text();
+    }
+
+    /** Some days go at once, so that schedules between none and whole are met often. */
+    private void dropSome() {
+        for (int i = r(m.d() + 1); i > 0; i--) {
+            drop();
+        }
+    }
+
     private void step() {
+        if (m.n() == 0 && r(5) > 0) {
+            feedText();
+            return;
+        }
         switch (r(30)) {
-            case 0:
-                String text = madeText();
-                end(0);
-                feed(text);
-                end(text.length());
-                text();
-                break;
+            case 0: feedText(); break;
             case 1:
-                if (r(6) == 0) {
+                if (r(12) == 0) {
                     text();
                 } else {
                     end(near(m.tape.length()));
@@ -815,7 +828,8 @@ public final class ModelTest {
             case 9: askTeams(); break;
             case 10: case 11: askComing(); break;
             case 12: case 13: case 14: add(); break;
-            case 15: case 16: case 17: drop(); break;
+            case 15: case 16: drop(); break;
+            case 17: dropSome(); break;
             case 18: weed(); break;
             case 19: case 20: name(); break;
             case 21: sort(); break;
