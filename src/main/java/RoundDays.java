@@ -352,15 +352,24 @@ public final class RoundDays {
 
     private void doDrawnDeed() {
         if (dice.draw(4) == 0) {
-            if (plan.days > 0) {
-                plan.remove(dice.draw(plan.days));
-            }
+            dropDrawnDay();
         } else {
-            int a = dice.draw(plan.teams);
-            int b = dice.draw(plan.teams);
-            if (a != b) {
-                plan.swapTeams(a, b);
-            }
+            renameDrawnTeams();
+        }
+    }
+
+    /** FIRST does not come behind it: else the day that went could come back at once. */
+    private void dropDrawnDay() {
+        if (plan.days > 0) {
+            plan.remove(dice.draw(plan.days));
+        }
+    }
+
+    private void renameDrawnTeams() {
+        int a = dice.draw(plan.teams);
+        int b = dice.draw(plan.teams);
+        if (a != b) {
+            plan.swapTeams(a, b);
         }
         if (finder.find(plan, false)) {
             plan.append(finder.found);

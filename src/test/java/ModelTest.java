@@ -753,9 +753,9 @@ public final class ModelTest {
                 int a = draw(s.teams());
                 int b = draw(s.teams());
                 s = named(s, a, b);
+                List<Integer> day = coming(s, false);
+                s = day == null ? s : with(s, day);
             }
-            List<Integer> day = coming(s, false);
-            s = day == null ? s : with(s, day);
         }
         if (good && m.n() > 0) {
             m.act(s);

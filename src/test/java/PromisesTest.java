@@ -683,6 +683,52 @@ public final class PromisesTest {
         due("sort() without teams", new RoundDays().sort(), 0);
     }
 
+    private static int drawSeed;
+
+    private static int draw(int n) {
+        drawSeed = drawSeed * 1103515245 + 12345;
+        return (drawSeed >>> 8) % n;
+    }
+
+    /** The least seed of 0 on whose first draws of 4, 6 and 6 are as told (the two of TEAMS alike or not). */
+    private static int seedOf(boolean goes, boolean alike) {
+        for (int seed = 0; ; seed++) {
+            drawSeed = seed;
+            if (draw(4) == 0 == goes && draw(6) == draw(6) == alike) {
+                return seed;
+            }
+        }
+    }
+
+    /** The DEEDS, done by drop(), name() and add(). */
+    private static void doDeeds(RoundDays y, int n, int seed) {
+        drawSeed = seed;
+        for (int i = 0; i < n; i++) {
+            if (draw(4) != 0) {
+                int a = draw(y.now(0));
+                y.name(a, draw(y.now(0)));
+                y.add(false);
+            } else if (y.now(1) > 0) {
+                y.drop(draw(y.now(1)));
+            }
+        }
+    }
+
+    private static void dueAsByDeeds(String text, int n, int seed) {
+        RoundDays x = of(text);
+        RoundDays y = of(text);
+        doDeeds(y, n, seed);
+        String call = text + " drawn(" + n + ", " + seed + ")";
+        due(call, x.drawn(n, seed), y.now(1));
+        due(call + ": days", x.now(1), y.now(1));
+        for (int day = 0; day < y.now(1); day++) {
+            for (int team = 0; team < y.now(0); team++) {
+                due(call + ": day " + day + ", team " + team, x.meets(day, team), y.meets(day, team));
+            }
+        }
+        due(call + ": acts", x.now(5), 1);
+    }
+
     private static void drawing() {
         promise = 29;
         RoundDays x = of(SIX_PERFECT);
@@ -690,45 +736,66 @@ public final class PromisesTest {
         due("drawn(61, 1)", x.drawn(61, 1), NONE);
         due("drawn(-1, 1)", x.drawn(-1, 1), NONE);
         due("acts", x.now(5), 0);
-        due("drawn(60, 1)", x.drawn(60, 1), 5);
-        due("acts", x.now(5), 1);
-        // A DEED of a seed whose first draw is 0 on no days: no day goes, then FIRST comes.
-        int seed = 0;
-        while ((seed * 1103515245 + 12345 >>> 8) % 4 != 0) {
-            seed++;
+        for (int seed = -40; seed < 40; seed++) {
+            dueAsByDeeds(SIX_PERFECT, 60, seed * 48271 + 7);
+            dueAsByDeeds("teams 6;day 0 3 1 4 2 5;", 1, seed);
+            dueAsByDeeds("teams 8;", 5, seed * 69621);
+            dueAsByDeeds("teams 4;", 2, seed);
         }
-        x = of("teams 6;");
-        due("drawn(1, " + seed + ")", x.drawn(1, seed), 1);
-        dueDay(x, 0, 1, 0, 3, 2, 5, 4);
-        // With one day that one goes, and comes again as the first.
+        x = new RoundDays();
+        due("drawn(5, 5) without teams", x.drawn(5, 5), 0);
+        due("acts", x.now(5), 0);
+        drawnDayGoes();
+        drawnTeamsChangeNames();
+    }
+
+    private static void drawnDayGoes() {
+        int goes = seedOf(true, false);
+        // No day to go: nothing, FIRST does not come.
+        RoundDays x = of("teams 6;");
+        due("drawn(1, " + goes + ") of no days", x.drawn(1, goes), 0);
+        due("acts", x.now(5), 1);
+        // The one day goes; FIRST does not come behind it.
         x = of("teams 4;day 0 3 1 2;");
-        due("drawn(1, " + seed + ")", x.drawn(1, seed), 1);
-        dueDay(x, 0, 1, 0, 3, 2);
+        due("drawn(1, " + goes + ")", x.drawn(1, goes), 0);
         due("undo()", x.undo(), 0);
         dueDay(x, 0, 3, 2, 1, 0);
-        // A seed whose first draw is not 0: two other draws name two teams anew, then FIRST comes.
-        int other = 0;
-        while ((other * 1103515245 + 12345 >>> 8) % 4 == 0) {
-            other++;
+        // Two teams change names and no day may come; then day 4 goes and does not come back.
+        x = new RoundDays();
+        x.by(11, 0);
+        RoundDays y = new RoundDays();
+        y.by(11, 0);
+        y.name(10, 5);
+        y.drop(4);
+        due("drawn(2, 200338316) of by(11, 0)", x.drawn(2, 200338316), 10);
+        for (int day = 0; day < 10; day++) {
+            for (int team = 0; team < 12; team++) {
+                due("drawn day " + day + ", team " + team, x.meets(day, team), y.meets(day, team));
+            }
         }
-        int s = other * 1103515245 + 12345;
-        s = s * 1103515245 + 12345;
-        int a = (s >>> 8) % 6;
-        s = s * 1103515245 + 12345;
-        int b = (s >>> 8) % 6;
-        x = of("teams 6;day 0 3 1 4 2 5;");
+    }
+
+    private static void drawnTeamsChangeNames() {
+        int unlike = seedOf(false, false);
+        drawSeed = unlike;
+        draw(4);
+        int a = draw(6);
+        int b = draw(6);
+        RoundDays x = of("teams 6;day 0 3 1 4 2 5;");
         RoundDays y = of("teams 6;day 0 3 1 4 2 5;");
         y.name(a, b);
         y.add(false);
-        due("drawn(1, " + other + ")", x.drawn(1, other), 2);
+        due("drawn(1, " + unlike + ")", x.drawn(1, unlike), 2);
         for (int day = 0; day < 2; day++) {
             for (int team = 0; team < 6; team++) {
                 due("drawn day " + day + ", team " + team, x.meets(day, team), y.meets(day, team));
             }
         }
-        x = new RoundDays();
-        due("drawn(5, 5) without teams", x.drawn(5, 5), 0);
-        due("acts", x.now(5), 0);
+        // One team drawn twice: no names change, FIRST comes.
+        int alike = seedOf(false, true);
+        x = of("teams 6;");
+        due("drawn(1, " + alike + ")", x.drawn(1, alike), 1);
+        dueDay(x, 0, 1, 0, 3, 2, 5, 4);
     }
 
     private static void undoing() {
