@@ -358,7 +358,7 @@ public final class RoundDays {
         }
     }
 
-    /** FIRST does not come behind it: else the day that went could come back at once. */
+    /** FIRST does not come behind a day that went: in DRAWN it belongs to the change of names alone. */
     private void dropDrawnDay() {
         if (plan.days > 0) {
             plan.remove(dice.draw(plan.days));
