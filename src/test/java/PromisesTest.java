@@ -2,86 +2,11 @@ import java.lang.reflect.Constructor;
 import java.lang.reflect.Field;
 import java.lang.reflect.Method;
 import java.lang.reflect.Modifier;
-import java.util.NoSuchElementException;
 import java.util.Set;
 import java.util.TreeSet;
 
 /** Promise by promise: ordinary inputs, the edges that the document names, wrong inputs. */
-public final class PromisesTest {
-    private static final int NONE = -1;
-    private static final String FOUR = "teams 4;day 0 1 2 3;day 0 2 1 3;day 0 3 1 2;";
-    private static final String SIX_PERFECT =
-        "teams 6;day 0 1 2 3 4 5;day 0 2 1 4 3 5;day 0 3 1 5 2 4;day 0 4 1 3 2 5;day 0 5 1 2 3 4;";
-    private static int wrong = 0;
-    private static int promise = 0;
-
-    private static void due(String what, long got, long want) {
-        if (got != want) {
-            wrong++;
-            System.out.println("promise " + promise + ": " + what + " answered " + got + ", due is " + want);
-        }
-    }
-
-    private static void due(String what, boolean got, boolean want) {
-        due(what, got ? 1 : 0, want ? 1 : 0);
-    }
-
-    private static void feed(RoundDays x, byte[] bytes) {
-        for (int at = 0; at < bytes.length; at += 20) {
-            int[] five = new int[5];
-            for (int i = 0; i < 20; i++) {
-                int sign = at + i < bytes.length ? bytes[at + i] & 255 : 0;
-                five[i / 4] = five[i / 4] << 8 | sign;
-            }
-            x.feed(five[0], five[1], five[2], five[3], five[4]);
-        }
-        x.end(bytes.length);
-    }
-
-    private static int text(RoundDays x, String text) {
-        feed(x, text.getBytes(java.nio.charset.StandardCharsets.ISO_8859_1));
-        return x.text();
-    }
-
-    private static RoundDays of(String text) {
-        RoundDays x = new RoundDays();
-        if (text(x, text) < 0) {
-            throw new IllegalStateException("a test's text is none: " + text);
-        }
-        return x;
-    }
-
-    private static int tell(RoundDays x, int... row) {
-        byte[] bytes = new byte[row.length];
-        for (int i = 0; i < row.length; i++) {
-            bytes[i] = (byte) row[i];
-        }
-        feed(x, bytes);
-        return x.tell();
-    }
-
-    private static int ring(RoundDays x, int d, int e, int i) {
-        try {
-            return x.ring(d, e, i);
-        } catch (NoSuchElementException none) {
-            return NONE;
-        }
-    }
-
-    private static void dueDay(RoundDays x, int day, int... row) {
-        for (int team = 0; team < row.length; team++) {
-            due("meets(" + day + ", " + team + ")", x.meets(day, team), row[team]);
-        }
-    }
-
-    private static void dueFault(String text, int place, int kind) {
-        RoundDays x = of(FOUR);
-        due("text() of '" + text + "'", text(x, text), -1 - place);
-        due("fault() of '" + text + "'", x.fault(), kind);
-        due("days behind a fault", x.now(1), 3);
-        due("tape behind a fault", x.now(6), 0);
-    }
-
+public final class PromisesTest extends Checks {
     public static void main(String[] args) {
         face();
         newObject();
@@ -102,14 +27,11 @@ public final class PromisesTest {
         drawing();
         undoing();
         images();
-        System.out.println(wrong == 0 ? "all promises hold" : wrong + " answers are not as due");
-        if (wrong != 0) {
-            System.exit(1);
-        }
+        finish();
     }
 
     private static void face() {
-        promise = 0;
+        sentence("promise 0");
         Set<String> names = new TreeSet<>();
         for (Method m : RoundDays.class.getDeclaredMethods()) {
             if (!Modifier.isPrivate(m.getModifiers())) {
@@ -129,7 +51,7 @@ public final class PromisesTest {
     }
 
     private static void newObject() {
-        promise = 1;
+        sentence("promise 1");
         RoundDays x = new RoundDays();
         int[] want = {0, 0, 0, 1, 0, 0, 0, NONE};
         for (int what = 0; what < want.length; what++) {
@@ -145,29 +67,29 @@ public final class PromisesTest {
     }
 
     private static void tape() {
-        promise = 2;
+        sentence("promise 2");
         RoundDays x = new RoundDays();
         for (int i = 1; i <= 37; i++) {
             due("feed " + i, x.feed(0, 0, 0, 0, 0), 20 * i);
         }
         due("feed beyond 740", x.feed(0, 0, 0, 0, 0), NONE);
         due("tape", x.now(6), 740);
-        promise = 3;
+        sentence("promise 3");
         due("end(741)", x.end(741), false);
         due("end(-1)", x.end(-1), false);
         due("end(740)", x.end(740), true);
         due("end(721)", x.end(721), true);
-        promise = 2;
+        sentence("promise 2");
         due("feed at 721", x.feed(0, 0, 0, 0, 0), NONE);
-        promise = 3;
+        sentence("promise 3");
         due("end(720)", x.end(720), true);
-        promise = 2;
+        sentence("promise 2");
         due("feed at 720", x.feed(0, 0, 0, 0, 0), 740);
-        promise = 3;
+        sentence("promise 3");
         due("end(0)", x.end(0), true);
         due("end(1)", x.end(1), false);
         due("tape", x.now(6), 0);
-        promise = 2;
+        sentence("promise 2");
         x = of("teams 4;");
         // All five numbers, the highest byte first: a row of twenty bytes is told of no four teams.
         due("feed", x.feed(0x01000302, 0x01000302, 0x01000302, 0x01000302, 0x01000302), 20);
@@ -180,7 +102,7 @@ public final class PromisesTest {
     }
 
     private static void textGood() {
-        promise = 4;
+        sentence("promise 4");
         RoundDays x = of(FOUR);
         due("teams", x.now(0), 4);
         due("days", x.now(1), 3);
@@ -196,7 +118,7 @@ public final class PromisesTest {
         due("lines of an empty tape", x.text(), 0);
         due("teams", x.now(0), 0);
         due("days", x.now(1), 0);
-        promise = 5;
+        sentence("promise 5");
         due("fault()", x.fault(), 0);
         text(x, "teams 5;");
         due("fault()", x.fault(), 2);
@@ -206,7 +128,7 @@ public final class PromisesTest {
         due("fault()", x.fault(), 1);
         text(x, "teams 8;");
         due("fault() behind a good one", x.fault(), 0);
-        promise = 4;
+        sentence("promise 4");
         x = of(FOUR);
         x.drop(0);
         due("acts", x.now(5), 1);
@@ -220,7 +142,7 @@ public final class PromisesTest {
     }
 
     private static void textFaults() {
-        promise = 5;
+        sentence("promise 5");
         dueFault("day 0 1 2 3;", 0, 1);
         dueFault("team 4;", 0, 1);
         dueFault("teams4;", 0, 1);
@@ -277,7 +199,7 @@ public final class PromisesTest {
     }
 
     private static void textLong() {
-        promise = 4;
+        sentence("promise 4");
         String blanks = " ".repeat(740);
         RoundDays x = new RoundDays();
         due("700 bytes", text(x, "teams 4;" + blanks.substring(0, 692)), 1);
@@ -299,7 +221,7 @@ public final class PromisesTest {
     }
 
     private static void nowAndMeets() {
-        promise = 6;
+        sentence("promise 6");
         RoundDays x = of(FOUR);
         due("whole", x.now(2), 1);
         due("perfect", x.now(3), 1);
@@ -315,14 +237,14 @@ public final class PromisesTest {
         x = of("teams 8;day 0 1 2 3 4 5 6 7;day 0 2 1 3 4 6 5 7;");
         due("perfect", x.now(3), 0);
         due("pairs that make one", x.now(4), 0);
-        promise = 7;
+        sentence("promise 7");
         x = of("teams 6;day 5 0 4 1 2 3;");
         dueDay(x, 0, 5, 4, 3, 2, 1, 0);
         int[][] none = {{0, 6}, {0, -1}, {1, 0}, {-1, 0}, {Integer.MAX_VALUE, 0}, {0, Integer.MIN_VALUE}};
         for (int[] n : none) {
             due("meets of none", x.meets(n[0], n[1]), NONE);
         }
-        promise = 8;
+        sentence("promise 8");
         x = of(FOUR);
         int[][] days = {{NONE, 0, 1, 2}, {0, NONE, 2, 1}, {1, 2, NONE, 0}, {2, 1, 0, NONE}};
         for (int a = 0; a < 4; a++) {
@@ -338,7 +260,7 @@ public final class PromisesTest {
     }
 
     private static void rings() {
-        promise = 9;
+        sentence("promise 9");
         RoundDays x = of("teams 12;day 0 1 2 3 4 5 6 7 8 9 10 11;day 0 2 1 3 4 6 5 7 8 10 9 11;"
             + "day 0 3 1 4 2 5 6 9 7 10 8 11;");
         due("rings(0, 1)", x.rings(0, 1), 3);
@@ -347,7 +269,7 @@ public final class PromisesTest {
         due("rings(0, 0)", x.rings(0, 0), NONE);
         due("rings(0, 3)", x.rings(0, 3), NONE);
         due("rings(-1, 0)", x.rings(-1, 0), NONE);
-        promise = 10;
+        sentence("promise 10");
         due("ring(0, 1, 0)", ring(x, 0, 1, 0), 0x00f);
         due("ring(0, 1, 1)", ring(x, 0, 1, 1), 0x0f0);
         due("ring(1, 0, 2)", ring(x, 1, 0, 2), 0xf00);
@@ -359,7 +281,7 @@ public final class PromisesTest {
         due("ring(0, 3, 0)", ring(x, 0, 3, 0), NONE);
         due("ring(-1, 1, 0)", ring(x, -1, 1, 0), NONE);
         due("days behind throws", x.now(1), 3);
-        promise = 11;
+        sentence("promise 11");
         int[] want = {0, 1, 1, 1, 0, 0, 0, 0};
         for (int n = 1; n <= 7; n++) {
             due("make(" + n + ")", x.make(n), want[n]);
@@ -367,7 +289,7 @@ public final class PromisesTest {
         due("make(0)", x.make(0), NONE);
         due("make(8)", x.make(8), NONE);
         due("make(-1)", x.make(-1), NONE);
-        promise = 12;
+        sentence("promise 12");
         x.family(0, 10);
         for (int day = 0; day < 9; day++) {
             due("sign(" + day + ")", x.sign(day), 6);
@@ -380,7 +302,7 @@ public final class PromisesTest {
     }
 
     private static void coming() {
-        promise = 13;
+        sentence("promise 13");
         int[] all = {3, 15, 105, 945, 10395, 135135};
         for (int i = 0; i < all.length; i++) {
             RoundDays x = of("teams " + (4 + 2 * i) + ";");
@@ -393,7 +315,7 @@ public final class PromisesTest {
         RoundDays stuck = of("teams 6;day 0 3 1 4 2 5;day 0 4 1 5 2 3;day 0 5 1 3 2 4;");
         due("may()", stuck.may(), 0);
         due("may() of a whole one", of(FOUR).may(), 0);
-        promise = 14;
+        sentence("promise 14");
         due("come(false, 0)", x.come(false, 0), 2);
         due("come(false, 1)", x.come(false, 1), 4);
         due("come(false, 3)", x.come(false, 3), 5);
@@ -408,7 +330,7 @@ public final class PromisesTest {
             due("FIRST of " + team, eight.come(false, team), first[team]);
             due("BEST of " + team, eight.come(true, team), best[team]);
         }
-        promise = 15;
+        sentence("promise 15");
         x = of("teams 4;day 0 1 2 3;day 0 2 1 3;");
         int[] sure = {3, 2, 1, 0};
         for (int team = 0; team < 4; team++) {
@@ -433,7 +355,7 @@ public final class PromisesTest {
     }
 
     private static void families() {
-        promise = 16;
+        sentence("promise 16");
         RoundDays x = new RoundDays();
         due("family(0, 6)", x.family(0, 6), 5);
         dueDay(x, 0, 5, 4, 3, 2, 1, 0);
@@ -463,7 +385,7 @@ public final class PromisesTest {
     }
 
     private static void starters() {
-        promise = 17;
+        sentence("promise 17");
         RoundDays x = of(FOUR);
         int[] all = {1, 1, 3, 9, 25, 133};
         int[] perfect = {1, 1, 1, 0, 3, 1};
@@ -477,7 +399,7 @@ public final class PromisesTest {
         }
         due("days", x.now(1), 3);
         due("acts", x.now(5), 0);
-        promise = 18;
+        sentence("promise 18");
         int[][] seven = {{3, 6, 1, 5, 4, 2}, {5, 3, 2, 6, 1, 4}, {6, 5, 4, 3, 2, 1}};
         for (int k = 0; k < 3; k++) {
             for (int number = 1; number < 7; number++) {
@@ -490,7 +412,7 @@ public final class PromisesTest {
         due("starter(7, 0, 7)", x.starter(7, 0, 7), NONE);
         due("starter(13, 132, 12)", x.starter(13, 132, 12), 1);
         due("starter(13, 133, 12)", x.starter(13, 133, 12), NONE);
-        promise = 19;
+        sentence("promise 19");
         due("by(7, 0)", x.by(7, 0), 7);
         due("teams", x.now(0), 8);
         dueDay(x, 0, 7, 3, 6, 1, 5, 4, 2, 0);
@@ -507,7 +429,7 @@ public final class PromisesTest {
     }
 
     private static void turnedAndAlike() {
-        promise = 20;
+        sentence("promise 20");
         RoundDays x = of("teams 6;");
         due("turned() without days", x.turned(), 31);
         x.family(0, 6);
@@ -521,7 +443,7 @@ public final class PromisesTest {
         due("turned() by threes", x.turned(), 1 | 1 << 3 | 1 << 6);
         x.name(2, 9);
         due("turned()", x.turned(), 1);
-        promise = 21;
+        sentence("promise 21");
         due("alike(0)", x.alike(0), NONE);
         due("alike(-1)", x.alike(-1), NONE);
         due("alike(2)", x.alike(2), NONE);
@@ -562,7 +484,7 @@ public final class PromisesTest {
     }
 
     private static void telling() {
-        promise = 22;
+        sentence("promise 22");
         RoundDays x = of("teams 6;");
         due("tell()", tell(x, 1, 0, 3, 2, 5, 4), 1);
         due("tell() of pairs that have met", tell(x, 1, 0, 4, 5, 2, 3), NONE);
@@ -589,7 +511,7 @@ public final class PromisesTest {
     }
 
     private static void adding() {
-        promise = 23;
+        sentence("promise 23");
         RoundDays x = of("teams 8;day 0 1 2 3 4 5 6 7;");
         due("add(true)", x.add(true), 2);
         dueDay(x, 1, 2, 4, 0, 6, 1, 7, 3, 5);
@@ -600,7 +522,7 @@ public final class PromisesTest {
         due("add(false)", x.add(false), NONE);
         due("add(true)", x.add(true), NONE);
         due("acts", x.now(5), 0);
-        promise = 24;
+        sentence("promise 24");
         due("addAll(false)", x.addAll(false), 0);
         due("acts", x.now(5), 0);
         x = of("teams 6;");
@@ -622,7 +544,7 @@ public final class PromisesTest {
     }
 
     private static void dropWeedName() {
-        promise = 25;
+        sentence("promise 25");
         RoundDays x = of(FOUR);
         due("drop(-1)", x.drop(-1), NONE);
         due("drop(3)", x.drop(3), NONE);
@@ -633,7 +555,7 @@ public final class PromisesTest {
         due("drop(1)", x.drop(1), 1);
         due("drop(0)", x.drop(0), 0);
         due("drop(0)", x.drop(0), NONE);
-        promise = 26;
+        sentence("promise 26");
         x.family(0, 10);
         x.drop(3);
         due("weed(5)", x.weed(5), 0);
@@ -647,7 +569,7 @@ public final class PromisesTest {
         due("acts", x.now(5), 6);
         due("weed(max)", x.weed(Integer.MAX_VALUE), 2);
         due("weed(1) of none", x.weed(1), 0);
-        promise = 27;
+        sentence("promise 27");
         x = of("teams 6;day 0 1 2 3 4 5;day 0 2 1 4 3 5;");
         due("name(0, 0)", x.name(0, 0), NONE);
         due("name(0, 6)", x.name(0, 6), NONE);
@@ -666,7 +588,7 @@ public final class PromisesTest {
     }
 
     private static void sorting() {
-        promise = 28;
+        sentence("promise 28");
         RoundDays x = of("teams 6;day 0 5 1 2 3 4;day 0 2 1 4 3 5;day 0 3 1 5 2 4;day 0 4 1 3 2 5;day 0 1 2 3 4 5;");
         due("sort()", x.sort(), 2);
         dueDay(x, 0, 1, 0, 3, 2, 5, 4);
@@ -730,7 +652,7 @@ public final class PromisesTest {
     }
 
     private static void drawing() {
-        promise = 29;
+        sentence("promise 29");
         RoundDays x = of(SIX_PERFECT);
         due("drawn(0, 1)", x.drawn(0, 1), NONE);
         due("drawn(61, 1)", x.drawn(61, 1), NONE);
@@ -799,7 +721,7 @@ public final class PromisesTest {
     }
 
     private static void undoing() {
-        promise = 30;
+        sentence("promise 30");
         RoundDays x = of("teams 6;");
         due("undo()", x.undo(), NONE);
         x.family(0, 8);
@@ -839,21 +761,21 @@ public final class PromisesTest {
     }
 
     private static void images() {
-        promise = 31;
+        sentence("promise 31");
         RoundDays x = of(FOUR);
         due("image(-1)", x.image(-1), false);
         due("image(2)", x.image(2), false);
-        promise = 32;
+        sentence("promise 32");
         due("restore(0)", x.restore(0), false);
         due("restore(2)", x.restore(2), false);
         due("restore(-1)", x.restore(-1), false);
-        promise = 31;
+        sentence("promise 31");
         due("image(0)", x.image(0), true);
         x.drop(0);
         due("image(1)", x.image(1), true);
         due("acts", x.now(5), 1);
         x.family(0, 14);
-        promise = 32;
+        sentence("promise 32");
         due("restore(1)", x.restore(1), true);
         due("days", x.now(1), 2);
         due("teams", x.now(0), 4);
@@ -872,7 +794,7 @@ public final class PromisesTest {
         x.drop(0);
         due("a false one changes nothing", x.restore(2), false);
         due("acts", x.now(5), 1);
-        promise = 31;
+        sentence("promise 31");
         x = new RoundDays();
         due("image(1) without teams", x.image(1), true);
         x.family(0, 4);
