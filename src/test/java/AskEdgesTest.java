@@ -1,4 +1,5 @@
 import java.util.ArrayList;
+import java.util.Arrays;
 import java.util.List;
 
 /** The edges of the calls that ask alone (promises 6 to 15, 17, 18, 20, 21) and of their terms, sentence by sentence. */
@@ -34,6 +35,7 @@ public final class AskEdgesTest extends Checks {
         comeWhereThereIsNone();
         comeGoesBack();
         comeBestOfNoDays();
+        comeBestGoesBack();
         sureIsRefused();
         sureWhereNoDayMayCome();
         sureOfSome();
@@ -230,6 +232,13 @@ public final class AskEdgesTest extends Checks {
         due("rings(0, 1)", x.rings(0, 1), 2);
         due("ring(0, 1, 0)", ring(x, 0, 1, 0), 1 | 1 << 7 | 1 << 3 | 1 << 4);
         due("ring(0, 1, 1)", ring(x, 0, 1, 1), 1 << 1 | 1 << 6 | 1 << 2 | 1 << 5);
+        // Team 2 stands on the first ring, behind the second one's least team.
+        x = of("teams 12;day 0 2 6 9 1 4 7 10 3 5 8 11;day 2 9 0 6 4 10 1 7 5 11 3 8;");
+        due("rings(0, 1)", x.rings(0, 1), 3);
+        due("ring(0, 1, 0)", ring(x, 0, 1, 0), 1 | 1 << 2 | 1 << 6 | 1 << 9);
+        due("ring(0, 1, 1)", ring(x, 0, 1, 1), 1 << 1 | 1 << 4 | 1 << 7 | 1 << 10);
+        due("ring(0, 1, 2)", ring(x, 0, 1, 2), 1 << 3 | 1 << 5 | 1 << 8 | 1 << 11);
+        due("ring(0, 1, 3)", ring(x, 0, 1, 3), NONE);
         due("all fourteen", ring(family(0, 14), 3, 12, 0), 0x3fff);
         due("all four", ring(of(FOUR), 0, 1, 0), 0xf);
     }
@@ -418,6 +427,78 @@ public final class AskEdgesTest extends Checks {
         x.drop(0);
         due("FIRST of the last day", x.come(false, 9), 0);
         due("no BEST of the last day", x.come(true, 9), NONE);
+    }
+
+    /** All days of some teams, in order. */
+    private static void allDays(int[] row, int from, List<int[]> all) {
+        int a = from;
+        while (a < row.length && row[a] != NONE) {
+            a++;
+        }
+        if (a == row.length) {
+            all.add(row.clone());
+            return;
+        }
+        for (int b = a + 1; b < row.length; b++) {
+            if (row[b] == NONE) {
+                row[a] = b;
+                row[b] = a;
+                allDays(row, a + 1, all);
+                row[a] = NONE;
+                row[b] = NONE;
+            }
+        }
+    }
+
+    private static boolean makeOne(int[] d, int[] e) {
+        int length = 0;
+        int at = 0;
+        do {
+            at = e[d[at]];
+            length += 2;
+        } while (at != 0);
+        return length == d.length;
+    }
+
+    /** The first day of all that shares no pair with the days there are and makes ONE with each. */
+    private static int[] bestOf(List<int[]> all, List<int[]> days) {
+        for (int[] day : all) {
+            boolean good = true;
+            for (int[] other : days) {
+                for (int team = 0; team < day.length; team++) {
+                    good &= day[team] != other[team];
+                }
+                good = good && makeOne(day, other);
+            }
+            if (good) {
+                return day;
+            }
+        }
+        return null;
+    }
+
+    private static void comeBestGoesBack() {
+        sentence("promise 14; BEST, where the first ways to pair end in none");
+        for (int n = 8; n <= 10; n += 2) {
+            List<int[]> all = new ArrayList<>();
+            int[] free = new int[n];
+            Arrays.fill(free, NONE);
+            allDays(free, 0, all);
+            // Each start is a day of all; BEST comes as long as there is one.
+            for (int start = 0; start < all.size(); start += n == 8 ? 5 : 41) {
+                RoundDays x = of("teams " + n + ";");
+                List<int[]> days = new ArrayList<>();
+                int[] next = all.get(start);
+                while (next != null) {
+                    days.add(next);
+                    due("days", tell(x, next), days.size());
+                    next = bestOf(all, days);
+                    for (int team = 0; team < n; team++) {
+                        due("BEST behind " + days.size() + " days", x.come(true, team), next == null ? NONE : next[team]);
+                    }
+                }
+            }
+        }
     }
 
     private static void sureIsRefused() {
