@@ -7,6 +7,7 @@ abstract class Checks {
     static final int NONE = -1;
     static final int MIN = Integer.MIN_VALUE;
     static final int MAX = Integer.MAX_VALUE;
+    static final int THROWN = -123456789;
     static final String FOUR = "teams 4;day 0 1 2 3;day 0 2 1 3;day 0 3 1 2;";
     static final String SIX_PERFECT =
         "teams 6;day 0 1 2 3 4 5;day 0 2 1 4 3 5;day 0 3 1 5 2 4;day 0 4 1 3 2 5;day 0 5 1 2 3 4;";
@@ -92,12 +93,12 @@ abstract class Checks {
         return x.tell();
     }
 
-    /** NONE stands for the NoSuchElementException: no ring is told so. */
+    /** THROWN stands for the NoSuchElementException, and for nothing that a wrong class would answer instead. */
     static int ring(RoundDays x, int d, int e, int i) {
         try {
             return x.ring(d, e, i);
         } catch (NoSuchElementException none) {
-            return NONE;
+            return THROWN;
         }
     }
 

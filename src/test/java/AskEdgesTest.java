@@ -226,7 +226,7 @@ public final class AskEdgesTest extends Checks {
         due("ring(0, 1, 1)", ring(x, 0, 1, 1), 0x03c0);
         due("ring(0, 1, 2)", ring(x, 0, 1, 2), 0x3c00);
         due("ring(1, 0, 2)", ring(x, 1, 0, 2), 0x3c00);
-        due("ring(0, 1, 3)", ring(x, 0, 1, 3), NONE);
+        due("ring(0, 1, 3)", ring(x, 0, 1, 3), THROWN);
         // The ring of team 0 is not of the lowest teams alone.
         x = of("teams 8;day 0 7 1 6 2 5 3 4;day 0 4 3 7 1 5 2 6;");
         due("rings(0, 1)", x.rings(0, 1), 2);
@@ -238,7 +238,7 @@ public final class AskEdgesTest extends Checks {
         due("ring(0, 1, 0)", ring(x, 0, 1, 0), 1 | 1 << 2 | 1 << 6 | 1 << 9);
         due("ring(0, 1, 1)", ring(x, 0, 1, 1), 1 << 1 | 1 << 4 | 1 << 7 | 1 << 10);
         due("ring(0, 1, 2)", ring(x, 0, 1, 2), 1 << 3 | 1 << 5 | 1 << 8 | 1 << 11);
-        due("ring(0, 1, 3)", ring(x, 0, 1, 3), NONE);
+        due("ring(0, 1, 3)", ring(x, 0, 1, 3), THROWN);
         due("all fourteen", ring(family(0, 14), 3, 12, 0), 0x3fff);
         due("all four", ring(of(FOUR), 0, 1, 0), 0xf);
     }
@@ -248,29 +248,29 @@ public final class AskEdgesTest extends Checks {
         RoundDays x = of(EIGHT_BY_FOURS);
         due("ring(0, 1, 1)", ring(x, 0, 1, 1), 0xf0);
         for (int i : new int[] {2, 3, 7, 8, -1, MIN, MAX}) {
-            due("ring(0, 1, " + i + ")", ring(x, 0, 1, i), NONE);
+            due("ring(0, 1, " + i + ")", ring(x, 0, 1, i), THROWN);
         }
-        due("one day", ring(x, 0, 0, 0), NONE);
-        due("no such day", ring(x, 0, 7, 0), NONE);
-        due("no such day", ring(x, 7, 0, 0), NONE);
+        due("one day", ring(x, 0, 0, 0), THROWN);
+        due("no such day", ring(x, 0, 7, 0), THROWN);
+        due("no such day", ring(x, 7, 0, 0), THROWN);
         for (int far : FAR) {
-            due("no such day", ring(x, 0, far, 0), NONE);
-            due("no such day", ring(x, far, 0, 0), NONE);
-            due("no such days", ring(x, far, far, 0), NONE);
-            due("no such days, no such ring", ring(x, far, -1, far), NONE);
+            due("no such day", ring(x, 0, far, 0), THROWN);
+            due("no such day", ring(x, far, 0, 0), THROWN);
+            due("no such days", ring(x, far, far, 0), THROWN);
+            due("no such days, no such ring", ring(x, far, -1, far), THROWN);
         }
-        due("without teams", ring(new RoundDays(), 0, 1, 0), NONE);
-        due("without days", ring(of("teams 4;"), 0, 1, 0), NONE);
+        due("without teams", ring(new RoundDays(), 0, 1, 0), THROWN);
+        due("without days", ring(of("teams 4;"), 0, 1, 0), THROWN);
     }
 
     private static void ringThatThrowsChangesNothing() {
         sentence("'A call that throws changes nothing'");
-        refused("ring(0, 1, 1)", x -> ring(x, 0, 1, 1));
-        refused("ring(0, 1, -1)", x -> ring(x, 0, 1, -1));
-        refused("ring(0, 0, 0)", x -> ring(x, 0, 0, 0));
-        refused("ring(0, 4, 0)", x -> ring(x, 0, 4, 0));
-        refused("ring(-1, 0, 0)", x -> ring(x, -1, 0, 0));
-        refused("ring(min, max, min)", x -> ring(x, MIN, MAX, MIN));
+        leaves("ring(0, 1, 1)", x -> ring(x, 0, 1, 1), THROWN);
+        leaves("ring(0, 1, -1)", x -> ring(x, 0, 1, -1), THROWN);
+        leaves("ring(0, 0, 0)", x -> ring(x, 0, 0, 0), THROWN);
+        leaves("ring(0, 4, 0)", x -> ring(x, 0, 4, 0), THROWN);
+        leaves("ring(-1, 0, 0)", x -> ring(x, -1, 0, 0), THROWN);
+        leaves("ring(min, max, min)", x -> ring(x, MIN, MAX, MIN), THROWN);
     }
 
     private static void makeIsRefused() {

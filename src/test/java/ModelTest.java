@@ -17,6 +17,8 @@ import java.util.regex.Pattern;
 /** Runs of up to 512 calls, made by a fixed seed, against a model that tries all days there are. */
 public final class ModelTest {
     private static final int NONE = -1;
+    /** What stands for the exception of ring(). */
+    private static final int THROWN = -123456789;
     private static final int RUNS = 800;
     private static final int CALLS = 512;
 
@@ -584,7 +586,7 @@ public final class ModelTest {
         boolean two = d != e && m.day(d) && m.day(e);
         List<Set<Integer>> rings = two ? rings(m.state.days().get(d), m.state.days().get(e)) : List.of();
         due("rings(" + d + ", " + e + ")", x.rings(d, e), two ? rings.size() : NONE);
-        long want = NONE;
+        long want = THROWN;
         if (i >= 0 && i < rings.size()) {
             want = rings.get(i).stream().mapToInt(t -> 1 << t).sum();
         }
@@ -592,7 +594,7 @@ public final class ModelTest {
         try {
             got = x.ring(d, e, i);
         } catch (NoSuchElementException none) {
-            got = NONE;
+            got = THROWN;
         }
         due("ring(" + d + ", " + e + ", " + i + ")", got, want);
         int n = near(8);

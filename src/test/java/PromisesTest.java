@@ -273,13 +273,13 @@ public final class PromisesTest extends Checks {
         due("ring(0, 1, 0)", ring(x, 0, 1, 0), 0x00f);
         due("ring(0, 1, 1)", ring(x, 0, 1, 1), 0x0f0);
         due("ring(1, 0, 2)", ring(x, 1, 0, 2), 0xf00);
-        due("ring(0, 1, 3)", ring(x, 0, 1, 3), NONE);
-        due("ring(0, 1, -1)", ring(x, 0, 1, -1), NONE);
+        due("ring(0, 1, 3)", ring(x, 0, 1, 3), THROWN);
+        due("ring(0, 1, -1)", ring(x, 0, 1, -1), THROWN);
         due("ring(0, 2, 0)", ring(x, 0, 2, 0), 0x03f);
         due("ring(0, 2, 1)", ring(x, 0, 2, 1), 0xfc0);
-        due("ring(0, 0, 0)", ring(x, 0, 0, 0), NONE);
-        due("ring(0, 3, 0)", ring(x, 0, 3, 0), NONE);
-        due("ring(-1, 1, 0)", ring(x, -1, 1, 0), NONE);
+        due("ring(0, 0, 0)", ring(x, 0, 0, 0), THROWN);
+        due("ring(0, 3, 0)", ring(x, 0, 3, 0), THROWN);
+        due("ring(-1, 1, 0)", ring(x, -1, 1, 0), THROWN);
         due("days behind throws", x.now(1), 3);
         sentence("promise 11");
         int[] want = {0, 1, 1, 1, 0, 0, 0, 0};

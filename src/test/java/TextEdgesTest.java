@@ -26,6 +26,7 @@ public final class TextEdgesTest extends Checks {
         teamIsToldOnceADay();
         pairMeetsOnce();
         daysAreAtMostNLessOne();
+        whatCannotComeIsAFaultEverywhere();
         firstFaultAlongTheTextCounts();
         leastFaultOfATokenCounts();
         theEndIsAPlace();
@@ -74,7 +75,7 @@ public final class TextEdgesTest extends Checks {
         due("fault()", x.fault(), 0);
         due("met(0, 1)", x.met(0, 1), NONE);
         due("rings(0, 1)", x.rings(0, 1), NONE);
-        due("ring(0, 1, 0)", ring(x, 0, 1, 0), NONE);
+        due("ring(0, 1, 0)", ring(x, 0, 1, 0), THROWN);
         due("make(1)", x.make(1), 0);
         due("sign(0)", x.sign(0), NONE);
         due("may()", x.may(), 0);
@@ -430,6 +431,27 @@ public final class TextEdgesTest extends Checks {
         // A schedule to which no day may come, though not all have met: the day's pairs are at fault, not the day.
         dueFault(STUCK + "day 0 1 2 3", STUCK.length() + 10, 3);
         dueFault(STUCK + "day", STUCK.length() + 3, 1);
+    }
+
+    private static void whatCannotComeIsAFaultEverywhere() {
+        sentence("FAULTS, \"1 no TOKEN, or one that can't come (at it)\"");
+        // Ways that a text may begin, and what alone may come behind each: a word, a number (0) or the sign ;
+        String[] starts = {"", "teams", "teams 4", "teams 4;", "teams 4;day", "teams 4;day 0", "teams 4;day 0 1",
+            "teams 4;day 0 1 2", "teams 4;day 0 1 2 3", "teams 4;day 0 1 2 3;"};
+        String[] due = {"teams", "0", ";", "day", "0", "0", "0", "0", ";", "day"};
+        String[] come = {"teams", "day", "x", "team", "days", "0", "3", "04", "99", ";",
+            "004", "100", "x1", "1x", "day0", "?", "-1", "A", "\u0000", "\u00e9", ","};
+        String[] behind = {"", " ", ";", " ;", " 3;", ";day 0 1 2 3;"};
+        for (int i = 0; i < starts.length; i++) {
+            for (String token : come) {
+                boolean number = token.length() <= 2 && Character.isDigit(token.charAt(0)) && !token.endsWith("x");
+                if (!token.equals(due[i]) && !(number && due[i].equals("0"))) {
+                    for (String rest : behind) {
+                        dueFault(starts[i] + " " + token + rest, starts[i].length() + 1, 1);
+                    }
+                }
+            }
+        }
     }
 
     private static void firstFaultAlongTheTextCounts() {
